@@ -1048,16 +1048,13 @@ public final class CafeTables {
             for (int t = 0; t < house.tables; t++) {
                 boolean fits = holder[t] == FREE && house.seats[t] >= size;
                 boolean there = place == ANYWHERE || house.where[t] == place;
-                if (fits && there && (best == NONE || isSmaller(t, best))) {
+                // By rule 0 the first table stays, however many its seats.
+                boolean better = best == NONE || house.rule != 0 && house.seats[t] < house.seats[best];
+                if (fits && there && better) {
                     best = t;
                 }
             }
             return best;
-        }
-
-        /** By rule 0 the first table stays, however many its seats. */
-        private boolean isSmaller(int t, int best) {
-            return house.rule != 0 && house.seats[t] < house.seats[best];
         }
 
         private int twoTables(int size) {

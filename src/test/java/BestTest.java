@@ -8,6 +8,7 @@ public final class BestTest {
         planOfTables();
         planOfSix();
         planAgainstTime();
+        planOfLateFirst();
         bestRules();
         patiences();
         mixes();
@@ -103,6 +104,14 @@ public final class BestTest {
         CHECK.due("group 0", x.plan(0), 0);
         CHECK.due("group 1", x.plan(1), 0);
         CHECK.due("group 2", x.plan(2), -9);
+    }
+
+    private static void planOfLateFirst() {
+        CafeTables x = Check.cafe("i1");
+        x.group(0, 1, 18, 60, 0, 0);
+        x.group(2, 1, 0, 9, 0, 0);
+        CHECK.due("a later number may come first", x.plan(1), 0);
+        CHECK.due("as if nobody waits", x.plan(-1), 11 + 5);
     }
 
     private static void bestRules() {
