@@ -3,12 +3,18 @@ final class Check {
     static final long LOST = Long.MIN_VALUE;
     private int asked;
     private int wrong;
+    private String sentence = "";
+
+    /** The sentence of the document that the answers from here on hold to: it stands ahead of what is not as due. */
+    void says(String words) {
+        sentence = "'" + words + "': ";
+    }
 
     void due(String call, long got, long want) {
         asked++;
         if (got != want) {
             wrong++;
-            System.out.println(call + " answered " + got + ", due is " + want);
+            System.out.println(sentence + call + " answered " + got + ", due is " + want);
         }
     }
 
@@ -16,7 +22,7 @@ final class Check {
         asked++;
         if (!is) {
             wrong++;
-            System.out.println("not so: " + call);
+            System.out.println(sentence + "not so: " + call);
         }
     }
 
@@ -35,11 +41,15 @@ final class Check {
     }
 
     static int take(CafeTables x, String text) {
-        x.sheet(0, 0, text.length());
+        return take(x, 0, 0, text);
+    }
+
+    static int take(CafeTables x, int k, int sort, String text) {
+        x.sheet(k, sort, text.length());
         for (int i = 0; i < text.length(); i++) {
-            x.put(0, i, text.charAt(i));
+            x.put(k, i, text.charAt(i));
         }
-        return x.cafe(0, 0, 0, text.length());
+        return x.cafe(k, sort, 0, text.length());
     }
 
     /** All that day() tells of a group, as one text. */
@@ -56,7 +66,14 @@ final class Check {
         asked++;
         if (!got.equals(want)) {
             wrong++;
-            System.out.println("the day of group " + g + " is " + got + ", due is " + want);
+            System.out.println(sentence + "the day of group " + g + " is " + got + ", due is " + want);
+        }
+    }
+
+    /** Whether the cells of a sheet, from the first on, are these. */
+    void dueRow(CafeTables x, int k, int sort, int... want) {
+        for (int i = 0; i < want.length; i++) {
+            due("cell " + i + " of sheet " + k, x.cell(k, i, sort), want[i]);
         }
     }
 
